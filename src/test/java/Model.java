@@ -1,4 +1,5 @@
 import java.util.ArrayList;
+import java.util.Arrays;
 import java.util.List;
 
 /** The document told a second time, by other means, for ModelTest to compare with. */
@@ -119,15 +120,15 @@ final class Model {
     }
 
     int sum(int from, int to) {
-        return isSpan(from, to) ? java.util.Arrays.stream(in(from, to)).sum() : -1;
+        return isSpan(from, to) ? Arrays.stream(in(from, to)).sum() : -1;
     }
 
     int greatest(int from, int to) {
-        return isSpan(from, to) ? java.util.Arrays.stream(in(from, to)).max().orElse(-4) : -1;
+        return isSpan(from, to) ? Arrays.stream(in(from, to)).max().orElse(-4) : -1;
     }
 
     int least(int from, int to) {
-        return isSpan(from, to) ? java.util.Arrays.stream(in(from, to)).min().orElse(-4) : -1;
+        return isSpan(from, to) ? Arrays.stream(in(from, to)).min().orElse(-4) : -1;
     }
 
     int valueAt(int t) {

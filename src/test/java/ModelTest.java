@@ -12,8 +12,8 @@ public final class ModelTest {
     private static final Check check = new Check();
     private static long seed;
 
-    private SeriesCodec real = new SeriesCodec();
-    private Model model = new Model();
+    private final SeriesCodec real = new SeriesCodec();
+    private final Model model = new Model();
     private final int widest;
     private final String run;
 
