@@ -14,34 +14,35 @@ public final class AskingTest {
     private static final Check check = new Check();
 
     public static void main(String[] args) {
-        pointsFrom0To64();
-        timeOfNone();
-        valueOfNone();
-        sizeOfNone();
-        packedOfNoneAndOfAll();
-        firstFromAtLeast();
-        firstFromNone();
-        firstFromTakesTheFirst();
-        countInSpan();
-        countNoSpan();
-        sumInSpan();
-        sumNoSpan();
-        greatestInSpan();
-        greatestNone();
-        greatestNoSpan();
-        leastInSpan();
-        leastNone();
-        leastNoSpan();
-        valueAtAtMost();
-        valueAtNone();
-        valueAtTakesTheLast();
-        risesGreaterOnly();
-        risesWithoutTheFirst();
-        risesOverChunks();
-        widestGapOfFewerThanTwo();
-        widestGapOfTwo();
-        widestGapOverAll();
-        noSpanBeforeNone();
+        check.run(
+            AskingTest::pointsFrom0To64,
+            AskingTest::timeOfNone,
+            AskingTest::valueOfNone,
+            AskingTest::sizeOfNone,
+            AskingTest::packedOfNoneAndOfAll,
+            AskingTest::firstFromAtLeast,
+            AskingTest::firstFromNone,
+            AskingTest::firstFromTakesTheFirst,
+            AskingTest::countInSpan,
+            AskingTest::countNoSpan,
+            AskingTest::sumInSpan,
+            AskingTest::sumNoSpan,
+            AskingTest::greatestInSpan,
+            AskingTest::greatestNone,
+            AskingTest::greatestNoSpan,
+            AskingTest::leastInSpan,
+            AskingTest::leastNone,
+            AskingTest::leastNoSpan,
+            AskingTest::valueAtAtMost,
+            AskingTest::valueAtNone,
+            AskingTest::valueAtTakesTheLast,
+            AskingTest::risesGreaterOnly,
+            AskingTest::risesWithoutTheFirst,
+            AskingTest::risesOverChunks,
+            AskingTest::widestGapOfFewerThanTwo,
+            AskingTest::widestGapOfTwo,
+            AskingTest::widestGapOverAll,
+            AskingTest::noSpanBeforeNone);
         check.finish();
     }
 

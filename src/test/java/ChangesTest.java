@@ -9,34 +9,35 @@ public final class ChangesTest {
     private static final Check check = new Check();
 
     public static void main(String[] args) {
-        newObjectHasNoPoint();
-        appendFirstPoint();
-        appendBehindTheLastPoint();
-        appendGapRange();
-        appendTimeAbove();
-        appendValueRange();
-        appendFull();
-        appendBadArgBeforeFull();
-        appendAnswersItsNumber();
-        steadyGapsAndValues();
-        steadyModulo();
-        steadyManyRange();
-        steadyOfNone();
-        steadyGapRange();
-        steadyTimeAbove();
-        steadyValueRange();
-        steadyStepRange();
-        steadyFull();
-        steadyBadArgBeforeFull();
-        steadyAnswersThePoints();
-        dropOldestOf16OrMore();
-        dropOldestOfFewer();
-        dropOldestNumbers();
-        dropOldestSizesStay();
-        dropOldestThenAppend();
-        unappendOfNone();
-        unappendAnswersItsValue();
-        unappendTakesTheLast();
+        check.run(
+            ChangesTest::newObjectHasNoPoint,
+            ChangesTest::appendFirstPoint,
+            ChangesTest::appendBehindTheLastPoint,
+            ChangesTest::appendGapRange,
+            ChangesTest::appendTimeAbove,
+            ChangesTest::appendValueRange,
+            ChangesTest::appendFull,
+            ChangesTest::appendBadArgBeforeFull,
+            ChangesTest::appendAnswersItsNumber,
+            ChangesTest::steadyGapsAndValues,
+            ChangesTest::steadyModulo,
+            ChangesTest::steadyManyRange,
+            ChangesTest::steadyOfNone,
+            ChangesTest::steadyGapRange,
+            ChangesTest::steadyTimeAbove,
+            ChangesTest::steadyValueRange,
+            ChangesTest::steadyStepRange,
+            ChangesTest::steadyFull,
+            ChangesTest::steadyBadArgBeforeFull,
+            ChangesTest::steadyAnswersThePoints,
+            ChangesTest::dropOldestOf16OrMore,
+            ChangesTest::dropOldestOfFewer,
+            ChangesTest::dropOldestNumbers,
+            ChangesTest::dropOldestSizesStay,
+            ChangesTest::dropOldestThenAppend,
+            ChangesTest::unappendOfNone,
+            ChangesTest::unappendAnswersItsValue,
+            ChangesTest::unappendTakesTheLast);
         check.finish();
     }
 

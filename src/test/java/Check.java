@@ -13,6 +13,17 @@ final class Check {
         sentence = "[" + words + "] ";
     }
 
+    /** Runs the tests in turn; one that a call throws out of is wrong, and the next ones go on. */
+    void run(Runnable... tests) {
+        for (Runnable test : tests) {
+            try {
+                test.run();
+            } catch (RuntimeException | Error thrown) {
+                wrong("threw " + thrown);
+            }
+        }
+    }
+
     void due(String call, int got, int want) {
         asked++;
         if (got != want) {

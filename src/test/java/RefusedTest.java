@@ -19,12 +19,13 @@ public final class RefusedTest {
     private record Call(String name, ToIntFunction<SeriesCodec> does) {}
 
     public static void main(String[] args) {
-        badArgInEveryState();
-        fullChangesNothing();
-        noneChangesNothing();
-        askingChangesNothing();
-        manyRefusalsInARow();
-        neverThrows();
+        check.run(
+            RefusedTest::badArgInEveryState,
+            RefusedTest::fullChangesNothing,
+            RefusedTest::noneChangesNothing,
+            RefusedTest::askingChangesNothing,
+            RefusedTest::manyRefusalsInARow,
+            RefusedTest::neverThrows);
         check.finish();
     }
 
@@ -168,17 +169,19 @@ public final class RefusedTest {
             for (Call call : alwaysBad()) {
                 check.due(call.name() + ", " + row.name(), call.does().applyAsInt(x), BAD_ARG);
             }
-            for (int k = 0; k < 64 && row.points() == 64; k++) {
+            for (int k = 0; k < 32 && row.points() == 64; k++) {
                 check.due("append, " + row.name(), x.append(0, k), FULL);
             }
-            for (int k = 0; k < 64 && row.points() == 0; k++) {
+            for (int k = 0; k < 32 && row.points() == 0; k++) {
                 check.due("unappend, " + row.name(), x.unappend(), NONE);
             }
-            for (int k = 0; k < 64 && row.points() < 16; k++) {
+            for (int k = 0; k < 32 && row.points() < 16; k++) {
                 check.due("dropOldest, " + row.name(), x.dropOldest(), NONE);
             }
-            List<String> without = Answers.ofLaterCalls(row.make().get());
-            check.holds("as without them, " + row.name(), Answers.ofLaterCalls(x).equals(without));
+            SeriesCodec without = row.make().get();
+            check.holds("as without them, " + row.name(), Answers.now(x).equals(Answers.now(without)));
+            check.holds("as without them, with later calls, " + row.name(),
+                Answers.ofLaterCalls(x).equals(Answers.ofLaterCalls(without)));
         }
     }
 
@@ -213,7 +216,7 @@ public final class RefusedTest {
             call.does().applyAsInt(x);
             call.does().applyAsInt(x);
             return x.points() >= 0 && x.points() <= 64 && x.packed() >= 0;
-        } catch (Throwable thrown) {
+        } catch (RuntimeException | Error thrown) {
             return false;
         }
     }

@@ -9,31 +9,32 @@ public final class TermsTest {
     private static final Check check = new Check();
 
     public static void main(String[] args) {
-        atMost64Points();
-        numberedInOrder();
-        timesFrom0To60000();
-        valuesFrom0To65535();
-        timesNeverFall();
-        chunksOfSixteen();
-        sizeIsTheSumOfItsPoints();
-        firstPointHasSize32();
-        gapBeforeTheSecondPointIs0();
-        gapBeforeTheOthersIsTaken();
-        timeSize1();
-        timeSize6();
-        timeSize10();
-        timeSize21();
-        valueSize1();
-        zerosOfTheChange();
-        noWindowAtTheBegin();
-        windowThatFits();
-        windowForEveryPair();
-        windowBecomes();
-        windowPastEqualValues();
-        spanFromAtMostTo();
-        spanFrom0To60000();
-        inSpanBothEnds();
-        codes();
+        check.run(
+            TermsTest::atMost64Points,
+            TermsTest::numberedInOrder,
+            TermsTest::timesFrom0To60000,
+            TermsTest::valuesFrom0To65535,
+            TermsTest::timesNeverFall,
+            TermsTest::chunksOfSixteen,
+            TermsTest::sizeIsTheSumOfItsPoints,
+            TermsTest::firstPointHasSize32,
+            TermsTest::gapBeforeTheSecondPointIs0,
+            TermsTest::gapBeforeTheOthersIsTaken,
+            TermsTest::timeSize1,
+            TermsTest::timeSize6,
+            TermsTest::timeSize10,
+            TermsTest::timeSize21,
+            TermsTest::valueSize1,
+            TermsTest::zerosOfTheChange,
+            TermsTest::noWindowAtTheBegin,
+            TermsTest::windowThatFits,
+            TermsTest::windowForEveryPair,
+            TermsTest::windowBecomes,
+            TermsTest::windowPastEqualValues,
+            TermsTest::spanFromAtMostTo,
+            TermsTest::spanFrom0To60000,
+            TermsTest::inSpanBothEnds,
+            TermsTest::codes);
         check.finish();
     }
 
